@@ -1374,11 +1374,6 @@ public final class SlateRing {
             }
         }
 
-        private void close(int due) {
-            pass(due);
-            open--;
-        }
-
         private void clause(int number, boolean doing) {
             int letter = sign;
             if (fault == 0 && letter != 's' && letter != 'l' && letter != 'c') {
@@ -1400,7 +1395,8 @@ public final class SlateRing {
             refused = false;
             openOne();
             boolean holds = condition();
-            close(')');
+            pass(')');
+            open--;
             if (doing && fault == 0 && holds && !refused) {
                 scene.move(letter, n);
             }
@@ -1459,7 +1455,8 @@ public final class SlateRing {
             if (sign == '(') {
                 openOne();
                 holds = condition();
-                close(')');
+                pass(')');
+                open--;
                 return holds;
             }
             long left = expression();
@@ -1514,7 +1511,8 @@ public final class SlateRing {
             if (sign == '[') {
                 openOne();
                 value = expression();
-                close(']');
+                pass(']');
+                open--;
             } else if (sign >= '0' && sign <= '9') {
                 value = number();
             } else if (Scene.isLetter(sign)) {
