@@ -59,10 +59,15 @@ public final class BetTest {
         Due.is("races 1 and 2", x.joined(0, 0, -1, 0, 3, 10), 2);
         Due.is("races 0 and 2", x.joined(0, 0, 0, -1, 3, 10), 3);
         Due.is("one", x.joined(0, 0, 0, -1, -1, 10), -1);
+        Due.is("one in race 1", x.joined(0, 0, -1, 0, -1, 10), -1);
+        Due.is("one in race 2", x.joined(0, 0, -1, -1, 3, 10), -1);
         Due.is("none", x.joined(0, 0, -1, -1, -1, 10), -1);
         Due.is("nothing stands", x.joined(0, 0, 2, 0, -1, 10), -1);
         Due.is("no horse 2 in race 1", x.joined(0, 0, 0, 2, -1, 10), -1);
         Due.is("no horse -2", x.joined(0, 0, 0, 1, -2, 10), -1);
+        x.slate(0, 1, 1, -1);
+        Due.is("nothing stands in race 1", x.joined(0, 0, 1, 1, -1, 10), -1);
+        x.slate(0, 1, 1, 2);
         Due.is("stake 0", x.joined(0, 0, 0, 1, -1, 0), -1);
         Due.is("stake 20001", x.joined(0, 0, 0, 1, -1, 20001), -1);
         Due.is("bettor 16", x.joined(16, 0, 0, 1, -1, 1), -1);

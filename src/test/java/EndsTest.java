@@ -11,6 +11,7 @@ public final class EndsTest {
         most();
         mostOfAll();
         chances();
+        nearChances();
         Due.end();
     }
 
@@ -155,6 +156,12 @@ public final class EndsTest {
         Due.is("no race", x.stood(2, 0), -1);
         Due.is("no what", x.stood(0, 4), -1);
         Due.is("no what -1", x.stood(0, -1), -1);
+        SlateRing z = Due.ring(1, 2);
+        Due.slates(z, 0, 0, 2, 2);
+        z.now(1);
+        z.now(2);
+        z.now(3);
+        Due.is("one row, second by second", z.stood(0, 3), 3);
         SlateRing y = Due.ring(1, 2);
         y.now(20);
         y.race(2);
@@ -201,7 +208,8 @@ public final class EndsTest {
 
     /** Every way to stake a small purse on three horses. */
     private static void mostOfAll() {
-        int[][] rings = {{3, 1, 2, 1, 9, 2}, {7, 2, 5, 2, 3, 1}, {60, 1, 59, 1, 1, 12}, {11, 5, 9, 4, 7, 3}, {4, 1, 4, 1, 4, 1}};
+        int[][] rings = {{3, 1, 2, 1, 9, 2}, {7, 2, 5, 2, 3, 1}, {60, 1, 59, 1, 1, 12}, {11, 5, 9, 4, 7, 3}, {4, 1, 4, 1, 4, 1},
+            {5, 2, 8, 3, 17, 6}, {53, 12, 9, 8, 29, 12}, {20, 9, 20, 9, 59, 12}};
         for (int[] p : rings) {
             SlateRing x = new SlateRing();
             x.race(3);
@@ -247,6 +255,31 @@ public final class EndsTest {
 
     private static int back(int[] p, int h, int stake) {
         return stake + stake * p[2 * h] / p[2 * h + 1];
+    }
+
+    /** Two horses of which the first has 1/2, 3/5, 4/7, 5/9, 6/11 and so on, by more and more books. */
+    private static void nearChances() {
+        int[][] steps = {{0, 0}, {1, 2}, {2, 3}, {3, 4}};
+        SlateRing x = new SlateRing();
+        x.race(2);
+        Due.ladder(x, 1, 1, 2, 1, 3, 1, 4, 1, 5, 1);
+        for (int b = 0; b < 4; b++) {
+            x.book(0);
+            Due.slates(x, b, 0, steps[b]);
+            Due.is("least above with book " + b, x.chance(0, 0, 0), 1);
+            Due.is("least below with book " + b, x.chance(0, 0, 1), 2);
+        }
+        Due.is("4/7: above", x.chance(0, 0, 2), 4);
+        Due.is("4/7: below", x.chance(0, 0, 3), 7);
+        Due.is("3/7: above", x.chance(0, 1, 0), 3);
+        Due.is("3/7: below", x.chance(0, 1, 1), 7);
+        Due.is("1/2: above", x.chance(0, 1, 2), 1);
+        Due.is("1/2: below", x.chance(0, 1, 3), 2);
+        Due.slates(x, 0, 0, 4, 3);
+        // 5/11, 4/7, 5/9 and 6/11
+        Due.is("5/11: above", x.chance(0, 0, 0), 5);
+        Due.is("5/11: below", x.chance(0, 0, 1), 11);
+        Due.is("4/7 still", x.chance(0, 0, 3), 7);
     }
 
     private static void chances() {

@@ -63,6 +63,14 @@ public final class HuntTest {
         Due.is("book 1 is over", x.bookIs(1, 1), 1);
         Due.is("book 2 then", x.layOff(0, 0, 5000, 0), 2);
         Due.is("of one that is over, too", x.layOff(1, 0, 5000, 0), -2);
+        SlateRing z = Due.ring(2, 2);
+        Due.slates(z, 1, 0, 5, 5);
+        Due.slates(z, 0, 0, 0, 0);
+        z.bet(0, 1, 0, 0, 1, 30);
+        // 30, -300: 200 at 1/2 makes -170, -200
+        Due.is("with book 0", z.layOff(1, 0, 5000, 0), 0);
+        Due.is("at its shortest", z.layOff(1, 0, 5000, 2), 200);
+        Due.is("-200", z.layOff(1, 0, 5000, 3), -200);
         SlateRing y = Due.ring(2, 3);
         Due.slates(y, 0, 0, 1, 1, 1);
         Due.slates(y, 1, 0, 0, 0, 0);
@@ -124,6 +132,7 @@ public final class HuntTest {
         Due.is("of 9 pence: the fourth", x.plan(0, 0, 0, 9, 4, 3), 1);
         Due.is("the slates stay", x.step(0, 0, 0), 5);
         Due.is("the balances stay", x.balance(0, 0, 0), 0);
+        Due.is("the other ends' too", x.balance(0, 0, 1), 0);
         Due.is("the purses stay", x.bookIs(0, 0), 100000);
         x.bet(0, 2, 0, 0, 0, 10);
         Due.is("it counts as many as before", x.step(2, 0, 0), -1);

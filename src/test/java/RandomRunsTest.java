@@ -108,10 +108,11 @@ public final class RandomRunsTest {
             case 9:
             case 10:
             case 11:
-                bet(bettor(), bookNo(), kind(), raceNo(), horse(), stake());
+                likelyBet();
                 break;
             case 12:
-                joined(bettor(), bookNo(), horse(), horse(), r.nextInt(3) == 0 ? -1 : horse(), stake());
+            case 15:
+                likelyJoined();
                 break;
             case 13:
                 scratch(raceNo(), horse());
@@ -234,7 +235,32 @@ public final class RandomRunsTest {
     }
 
     private int bettor() {
-        return r.nextInt(2) == 0 ? one(16) : one(5);
+        return r.nextInt(5) == 0 ? one(16) : one(4);
+    }
+
+    /** Mostly on a horse on which something stands. */
+    private void likelyBet() {
+        int b = bookNo(), i = raceNo(), h = horse();
+        for (int k = 0; k < 6 && m.step(b, i, h) < 0; k++) {
+            b = bookNo();
+            i = raceNo();
+            h = horse();
+        }
+        bet(bettor(), b, kind(), i, h, stake());
+    }
+
+    private void likelyJoined() {
+        int b = bookNo();
+        int[] hs = {-1, -1, -1};
+        for (int i = 0; i < 3; i++) {
+            for (int k = 0; k < 6 && i < m.horses.size() && m.step(b, i, hs[i]) < 0; k++) {
+                hs[i] = horse();
+            }
+        }
+        if (r.nextInt(2) == 0) {
+            hs[r.nextInt(3)] = -1;
+        }
+        joined(bettor(), b, hs[0], hs[1], hs[2], stake());
     }
 
     private int kind() {
@@ -246,7 +272,7 @@ public final class RandomRunsTest {
     }
 
     private int stake() {
-        return r.nextInt(20) == 0 ? any(20001) : 1 + r.nextInt(r.nextInt(3) == 0 ? 20000 : 500);
+        return r.nextInt(20) == 0 ? any(20001) : 1 + r.nextInt(r.nextInt(5) == 0 ? 20000 : 500);
     }
 
     private int gap() {
@@ -344,7 +370,7 @@ public final class RandomRunsTest {
     }
 
     private void run() {
-        if (r.nextInt(4) != 0) {
+        if (r.nextInt(600) > calls) {
             return;
         }
         int i = raceNo();

@@ -99,6 +99,10 @@ public final class RingTest {
         Due.is("the tape is empty then", x.count(5), 0);
         Due.no("told already", Due.ladder(x, 1, 1));
         Due.is("count 4 stays", x.count(4), 24);
+        SlateRing one = new SlateRing();
+        Due.yes("one price", Due.ladder(one, 3, 1));
+        Due.no("one is told already", Due.ladder(one, 3, 1, 4, 1));
+        Due.is("one stays", one.count(4), 1);
         Due.yes("60/1 and 1/12", Due.ladder(new SlateRing(), 1, 12, 60, 1));
         Due.no("61/1", Due.ladder(new SlateRing(), 61, 1));
         Due.no("0/1", Due.ladder(new SlateRing(), 0, 1));
@@ -181,6 +185,12 @@ public final class RingTest {
         x.bet(0, 0, 0, 0, 3, 1);
         Due.is("nothing any more", x.step(0, 0, 3), -1);
         Due.is("the others all the same", x.step(0, 0, 0), 5);
+        Due.way(x, 0, "l2(h=1)");
+        Due.slates(x, 0, 0, 2, 2, 2, 2);
+        x.bet(0, 0, 0, 0, 1, 1);
+        Due.is("l: its own stays", x.step(0, 0, 1), 2);
+        Due.is("l: the one behind it", x.step(0, 0, 2), 4);
+        Due.is("l: the one before it", x.step(0, 0, 0), 4);
         Due.slates(x, 0, 1, 2, 2, 2);
         Due.slates(x, 0, 0, 2, 2, 2, 2);
         Due.way(x, 0, "s1(h=1);l2(h=0)");

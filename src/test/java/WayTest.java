@@ -87,6 +87,10 @@ public final class WayTest {
         // 1/2, 1/3 and 1/3 are 1166, then 1/2, 1/4 and 1/4 are 1000
         Due.is("each clause as it is then: s, l, c", x.step(0, 0, 0), -1);
         Due.is("the others", x.step(0, 0, 1), 3);
+        Due.slates(x, 0, 0, 0, 0, 4);
+        Due.way(x, 0, "c(o=1500)");
+        x.bet(0, 0, 0, 0, 0, 10);
+        Due.is("2/3, 2/3 and 1/6 are 1500", x.step(0, 0, 0), -1);
         Due.slates(x, 0, 0, 2, 2, 2);
         Due.way(x, 0, "c(1=1);l1(i=24);s1(i=24)");
         x.bet(0, 0, 0, 0, 0, 10);
@@ -124,6 +128,9 @@ public final class WayTest {
         yes("!(1=2&1/0=1)");
         no("1=1&(1=2|1/0=1)");
         yes("1=1&(1=1|1/0=1)");
+        yes("1=2&1=1|h=1");
+        yes("(1=1|1=1)&h=1");
+        no("(1=1|1=1)&1/0=1");
         no("0*[1/0]=0");
         no("1=1/0");
         SlateRing x = Due.ring(1, 3);
