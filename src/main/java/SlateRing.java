@@ -27,7 +27,7 @@ public final class SlateRing {
     private static final long GREATEST_BACK = 1000000000L;
     private static final int NO_BALANCE = -1000000000;
     private static final int ABOVE_ALL = 2000000000;
-    private static final int NOT_YET = -2;
+    private static final int NO_ANSWER = -2;
 
     private static final int WIN = 0;
     private static final int PLACE = 1;
@@ -252,7 +252,7 @@ public final class SlateRing {
             return NONE;
         }
         if (!bet.decided) {
-            return NOT_YET;
+            return NO_ANSWER;
         }
         if (what == 0) {
             return bet.back;
@@ -354,7 +354,7 @@ public final class SlateRing {
         }
         seekLayOff(b, own, race, where, greatest);
         if (laying.book == NONE) {
-            return NOT_YET;
+            return NO_ANSWER;
         }
         switch (what) {
             case 0:
@@ -383,7 +383,7 @@ public final class SlateRing {
         }
         planning.seek(n);
         if (planning.most == NONE) {
-            return NOT_YET;
+            return NO_ANSWER;
         }
         return what == NONE ? planning.most : planning.bookOf(what, n);
     }
@@ -447,17 +447,17 @@ public final class SlateRing {
             }
         }
         if (below == 0) {
-            return NOT_YET;
+            return NO_ANSWER;
         }
         return (what & 1) == 0 ? above : below;
     }
 
     public int check(int b, int n) {
         if (n < 0 || !tape.give(8L * n)) {
-            return NOT_YET;
+            return NO_ANSWER;
         }
         if (bookAt(b) == null) {
-            return NOT_YET;
+            return NO_ANSWER;
         }
         int place = 0;
         for (int i = 0; i < betCount; i++) {
@@ -1639,7 +1639,8 @@ public final class SlateRing {
         private void seek(int purse) {
             int spent = 0;
             for (int h = 0; h < horses && h < HORSES; h++) {
-                spent += lift(h, 1);
+                lift(h, 1);
+                spent++;
             }
             for (int i = 0; i < GREATEST_GAIN_PURSE && spent <= purse; i++) {
                 int least = least();
@@ -1649,16 +1650,16 @@ public final class SlateRing {
                 }
                 for (int h = 0; h < horses && h < HORSES; h++) {
                     if (backs[h] == least) {
-                        spent += lift(h, stakes[h] + 1);
+                        lift(h, stakes[h] + 1);
+                        spent++;
                     }
                 }
             }
         }
 
-        private int lift(int h, int stake) {
+        private void lift(int h, int stake) {
             stakes[h] = stake;
             backs[h] = stake + stake * a[h] / Math.max(b[h], 1);
-            return 1;
         }
 
         private int least() {
