@@ -113,21 +113,15 @@ public final class SlateRing {
     }
 
     public boolean ladder(int n) {
-        if (!tape.give(2L * n)) {
-            return false;
-        }
-        if (n < 1 || n > STEPS || prices.steps > 0) {
+        if (n < 1 || n > STEPS || prices.steps > 0 || !tape.give(2L * n)) {
             return false;
         }
         return prices.fill(tape, n);
     }
 
     public int way(int b, int n) {
-        if (!tape.give(n)) {
-            return NONE;
-        }
         Book book = bookAt(b);
-        if (book == null || n < 1 || n > TEXT_BYTES) {
+        if (book == null || n < 1 || n > TEXT_BYTES || !tape.give(n)) {
             return NONE;
         }
         int clauses = reader.read(tape.bytes, n, false);
@@ -210,7 +204,7 @@ public final class SlateRing {
         if (where == null || where.ended || won == 0 || (won & ~where.runners()) != 0) {
             return NONE;
         }
-        if ((placed & ~where.all()) != 0 || (won & ~placed) != 0) {
+        if ((placed & ~where.runners()) != 0 || (won & ~placed) != 0) {
             return NONE;
         }
         where.end(won, placed);
@@ -453,10 +447,7 @@ public final class SlateRing {
     }
 
     public int check(int b, int n) {
-        if (n < 0 || !tape.give(8L * n)) {
-            return NO_ANSWER;
-        }
-        if (bookAt(b) == null) {
+        if (bookAt(b) == null || n < 0 || !tape.give(8L * n)) {
             return NO_ANSWER;
         }
         int place = 0;

@@ -180,10 +180,12 @@ public final class BetTest {
         Due.is("no horse 5 won", x.run(0, 33, 33), -1);
         Due.is("no horse 5 placed", x.run(0, 1, 33), -1);
         Due.is("a scratched one won", x.run(0, 4, 4), -1);
+        Due.is("a scratched one is placed", x.run(0, 1, 5), -1);
         Due.is("who won isn't placed", x.run(0, 3, 1), -1);
         Due.is("highest bits", x.run(0, 1, Integer.MIN_VALUE + 1), -1);
         Due.is("not run", x.count(20), 0);
         Due.is("not decided", x.has(0, 0), -2);
+        Due.yes("a slate can still be told", x.slate(0, 0, 3, 0));
         Due.is("one is decided", x.run(0, 3, 11), 1);
         Due.is("it is run", x.run(0, 3, 11), -1);
         Due.is("count 20", x.count(20), 1);

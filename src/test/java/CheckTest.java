@@ -69,6 +69,9 @@ public final class CheckTest {
         Due.is("less than none", x.check(0, -1), -2);
         Due.is("more than an int of bytes", x.check(0, 1 << 29), -2);
         Due.is("25 of none", x.check(0, 25), -2);
+        Due.is("no such ones: the tape stays", x.count(5), 20);
+        Due.is("no numbers", x.check(0, 0), 0);
+        Due.is("empty then, too", x.count(5), 0);
     }
 
     private static void count() {

@@ -332,11 +332,16 @@ public final class RandomRunsTest {
         due("ladder " + told, x.ladder(told) ? 1 : 0, m.ladder(told));
     }
 
+    /** Mostly, so that what is fed next stands first on the tape. */
+    private void emptyTape() {
+        if (!m.tape.isEmpty() && r.nextInt(4) != 0) {
+            due("check 0 0", x.check(0, 0), m.check(0, 0));
+        }
+    }
+
     private void way() {
         String text = texts.any();
-        if (!m.tape.isEmpty() && r.nextInt(4) != 0) {
-            due("way 0 0", x.way(0, 0), m.way(0, 0));
-        }
+        emptyTape();
         int[] bytes = text.chars().toArray();
         feed(bytes);
         int b = bookNo();
@@ -377,8 +382,9 @@ public final class RandomRunsTest {
         int won = r.nextInt(4) == 0 ? r.nextInt(256) : 1 << r.nextInt(8);
         int placed = r.nextInt(10) == 0 ? any(256) : won | 1 << r.nextInt(8) | 1 << r.nextInt(8);
         if (i >= 0 && i < m.horses.size() && r.nextInt(6) != 0) {
-            won &= (1 << m.horses.get(i)) - 1;
-            placed &= (1 << m.horses.get(i)) - 1;
+            int all = r.nextInt(6) == 0 ? (1 << m.horses.get(i)) - 1 : (int) m.count(10 + i);
+            won &= all;
+            placed &= all;
         }
         due("run " + i + " " + won + " " + placed, x.run(i, won, placed), m.run(i, won, placed));
     }
@@ -395,9 +401,7 @@ public final class RandomRunsTest {
         if (!due.isEmpty() && r.nextInt(3) == 0) {
             due.set(r.nextInt(due.size()), r.nextInt(200));
         }
-        if (!m.tape.isEmpty() && r.nextInt(4) != 0) {
-            due("check 0 0", x.check(0, 0), m.check(0, 0));
-        }
+        emptyTape();
         int[] bytes = new int[4 * due.size()];
         for (int i = 0; i < bytes.length; i++) {
             bytes[i] = due.get(i / 4) >> 8 * (3 - i % 4);

@@ -119,8 +119,19 @@ public final class RingTest {
         x.feed(0x01010201, 0x03010401, 0x05010601, 0x07010801, 0x09010A01);
         Due.no("11 prices of 20 bytes", x.ladder(11));
         Due.is("not so many: the tape stays", x.count(5), 20);
+        Due.no("no such n, though 20 bytes", x.ladder(0));
+        Due.no("no such n, -1", x.ladder(-1));
+        Due.is("no such n: the tape stays", x.count(5), 20);
         Due.yes("10 prices of 20 bytes", x.ladder(10));
         Due.is("empty then", x.count(5), 0);
+        x.feed(0x01010201, 0x03010401, 0x05010601, 0x07010801, 0x09010A01);
+        Due.no("told already", x.ladder(10));
+        Due.is("told already: the tape stays", x.count(5), 20);
+        x.feed(0, 0, 0, 0, 0);
+        x.feed(0, 0, 0, 0, 0);
+        Due.no("no such n, 25 of 60 bytes", x.ladder(25));
+        Due.no("told already, and not so", x.ladder(15));
+        Due.is("both: the tape stays", x.count(5), 60);
         SlateRing y = new SlateRing();
         y.feed(0, 0, 0, 0, 0);
         Due.no("not so", y.ladder(3));
@@ -217,8 +228,16 @@ public final class RingTest {
         Due.is("the text before stays", x.count(30), 1);
         x.feed(0, 0, 0, 0, 0);
         Due.is("no bytes", x.way(0, 0), -1);
+        Due.is("less than none", x.way(0, -1), -1);
         Due.is("no book", x.way(1, 6), -1);
         Due.is("no book -1", x.way(-1, 6), -1);
+        Due.is("no such ones: the tape stays", x.count(5), 20);
+        for (int i = 0; i < 9; i++) {
+            x.feed(0, 0, 0, 0, 0);
+        }
+        Due.is("161 of 200", x.way(0, 161), -1);
+        Due.is("more than 160: the tape stays", x.count(5), 200);
+        Due.is("160 of 200", x.way(0, 160), -1000);
         StringBuilder s = new StringBuilder("c(1=1");
         while (s.length() < 159) {
             s.append("+h");

@@ -145,20 +145,18 @@ final class Model {
         return tape.size();
     }
 
-    List<Integer> take(long n) {
-        if (n > tape.size()) {
-            return null;
-        }
-        List<Integer> all = tape;
-        tape = new ArrayList<>();
-        return n < 0 ? new ArrayList<>() : new ArrayList<>(all.subList(0, (int) n));
+    /** The first n bytes, of at least so many; the tape is empty then. */
+    List<Integer> take(int n) {
+        List<Integer> first = new ArrayList<>(tape.subList(0, n));
+        tape.clear();
+        return first;
     }
 
     long ladder(int n) {
-        List<Integer> t = take(2L * n);
-        if (t == null || n < 1 || n > 24 || a.length > 0) {
+        if (n < 1 || n > 24 || a.length > 0 || tape.size() < 2 * n) {
             return 0;
         }
+        List<Integer> t = take(2 * n);
         int[] as = new int[n], bs = new int[n];
         for (int i = 0; i < n; i++) {
             as[i] = t.get(2 * i);
@@ -176,10 +174,10 @@ final class Model {
     }
 
     long way(int k, int n) {
-        List<Integer> t = take(n);
-        if (t == null || !isBook(k) || n < 1 || n > 160) {
+        if (!isBook(k) || n < 1 || n > 160 || tape.size() < n) {
             return -1;
         }
+        List<Integer> t = take(n);
         int fault = Faults.of(t);
         if (fault != 0) {
             return fault;
@@ -281,7 +279,7 @@ final class Model {
             return -1;
         }
         for (int h = 0; h < 32; h++) {
-            if ((p >> h & 1) == 1 && !isHorse(r, h) || (w >> h & 1) == 1 && gone(r, h)) {
+            if ((p >> h & 1) == 1 && (!isHorse(r, h) || gone(r, h))) {
                 return -1;
             }
         }
@@ -666,13 +664,10 @@ final class Model {
     }
 
     long check(int k, int n) {
-        if (n < 0) {
+        if (!isBook(k) || n < 0 || tape.size() < 8L * n) {
             return -2;
         }
-        List<Integer> t = take(8L * n);
-        if (t == null || !isBook(k)) {
-            return -2;
-        }
+        List<Integer> t = take(8 * n);
         List<Integer> due = new ArrayList<>();
         for (int i = 0; i < bets.size(); i++) {
             if (bets.get(i).book == k && bets.get(i).decided) {
