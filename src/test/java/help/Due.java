@@ -68,12 +68,31 @@ final class Due {
         return x.ladder(prices.length / 2);
     }
 
-    /** A ladder 1/2 1/1 2/1 3/1 5/1 10/1, races and books with purses of 100000. */
-    static SlateRing ring(int books, int... horses) {
+    /** All 24 prices: 1/2, 2/2, 3/2 and so on. */
+    static boolean ladder24(SlateRing x) {
+        int[] prices = new int[48];
+        for (int i = 0; i < 24; i++) {
+            prices[2 * i] = i + 1;
+            prices[2 * i + 1] = 2;
+        }
+        return ladder(x, prices);
+    }
+
+    /** Races, and books with nothing in their purses; no ladder. */
+    static SlateRing bare(int books, int... horses) {
         SlateRing x = new SlateRing();
         for (int h : horses) {
             x.race(h);
         }
+        for (int b = 0; b < books; b++) {
+            x.book(0);
+        }
+        return x;
+    }
+
+    /** A ladder 1/2 1/1 2/1 3/1 5/1 10/1, races and books with purses of 100000. */
+    static SlateRing ring(int books, int... horses) {
+        SlateRing x = bare(0, horses);
         for (int b = 0; b < books; b++) {
             x.book(100000);
         }
