@@ -131,6 +131,15 @@ public final class EdgesBacksTest {
         deducted(7, 12, 60);
         deducted(60, 12, 15);
         deducted(3, 7, 70);
+        for (int a = 1; a <= 60; a++) {
+            for (int b = 1; b <= 12; b++) {
+                int due = 0;
+                while (due < 75 && (due + 5) * (a + b) <= 100 * b) {
+                    due += 5;
+                }
+                deducted(a, b, due);
+            }
+        }
     }
 
     /** "(nothing stood: 0)" */

@@ -37,6 +37,7 @@ public final class EdgesSoughtTest {
         knewMore();
         chanceOfFullSlates();
         chanceLeastAndGreatest();
+        chancesOfTwo();
         checkAll();
         Due.end();
     }
@@ -148,6 +149,8 @@ public final class EdgesSoughtTest {
         Due.is("second 1 has not ended", x.stood(0, 0), 0);
         x.now(1);
         Due.is("nor now", x.stood(0, 0), 0);
+        Due.is("so there is no first", x.stood(0, 1), -1);
+        Due.is("and no last", x.stood(0, 2), -1);
         Due.no("a second that is past", x.now(0));
         Due.is("nor then", x.stood(0, 0), 0);
         x.now(2);
@@ -737,6 +740,32 @@ public final class EdgesSoughtTest {
         java.math.BigInteger common = above.gcd(below);
         Due.is("eight long ones: the greatest", z.chance(0, 0, 2), above.divide(common).longValueExact());
         Due.is("through", z.chance(0, 0, 3), below.divide(common).longValueExact());
+    }
+
+    /** Each two slates of two horses, in both orders. */
+    private static void chancesOfTwo() {
+        int[] a = {1, 1, 2, 3, 5, 10};
+        int[] b = {2, 1, 1, 1, 1, 1};
+        for (int i = 0; i < 1296; i++) {
+            int[] s = {i % 6, i / 6 % 6, i / 36 % 6, i / 216};
+            SlateRing x = Due.ring(2, 2);
+            Due.slates(x, 0, 0, s[0], s[1]);
+            Due.slates(x, 1, 0, s[2], s[3]);
+            int[] above = new int[2];
+            int[] below = new int[2];
+            for (int k = 0; k < 2; k++) {
+                int p = 2 * k;
+                above[k] = b[s[p]] * (a[s[p + 1]] + b[s[p + 1]]);
+                below[k] = above[k] + b[s[p + 1]] * (a[s[p]] + b[s[p]]);
+            }
+            boolean firstIsLess = above[0] * below[1] <= above[1] * below[0];
+            String slates = java.util.Arrays.toString(s);
+            for (int what = 0; what < 4; what++) {
+                int k = firstIsLess == (what < 2) ? 0 : 1;
+                int common = java.math.BigInteger.valueOf(above[k]).gcd(java.math.BigInteger.valueOf(below[k])).intValue();
+                Due.is("slates " + slates + ", what " + what, x.chance(0, 0, what), (what % 2 == 0 ? above[k] : below[k]) / common);
+            }
+        }
     }
 
     /** "twos of numbers: a BET of its own that is DECIDED, what it HAS BACK: all, by numbers: right, or the first number that is not so" */

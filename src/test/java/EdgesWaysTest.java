@@ -84,6 +84,20 @@ public final class EdgesWaysTest {
         Due.is("at another's", x.balance(0, 0, 0), -10);
         x.bet(0, 0, 0, 0, 2, 5);
         Due.is("with a later one", x.balance(0, 0, 0), -5);
+        SlateRing y = Due.ring(1, 3);
+        Due.slates(y, 0, 0, 1, 2, 1);
+        y.bet(0, 0, 0, 0, 0, 10);
+        y.bet(0, 0, 0, 0, 1, 50);
+        y.bet(0, 0, 0, 0, 1, 7);
+        y.bet(0, 0, 2, 0, 1, 300);
+        Due.is("three bets on one", y.balance(0, 0, 1), 367 - 3 * 357);
+        y.plan(0, 0, 1, 20, 4, -1);
+        y.scratch(0, 1);
+        Due.is("all three aside", y.balance(0, 0, 2), 10);
+        Due.is("at its own end, too", y.balance(0, 0, 1), 10);
+        Due.way(y, 0, "c(t=14)");
+        y.bet(0, 0, 0, 0, 0, 4);
+        Due.is("t has them aside, too", y.step(0, 0, 0), -1);
     }
 
     /** "by its BETS of KINDS 0 and 2 ..., their parts to win" */
@@ -680,6 +694,17 @@ public final class EdgesWaysTest {
         yes("(1=2&1/0=0)|1=1|1/0=0");
         yes("1=2&!1/0=0|1=1");
         yes("1=2&[1/0]%0*[5%0]=1/0|1=1");
+        yes("1=2&(1=2|1/0=0)|1=1");
+        yes("1=2&(1=1&1/0=0)|1=1");
+        yes("1=2&!(1=1&!(1=2|1/0=0))|1=1");
+        yes("1=1|(1=2|1/0=0)");
+        yes("1=1|(1=1&1/0=0)");
+        yes("1=1|1=1&1/0=0");
+        yes("1=1|!(1=2|1/0=0)&1%0=0");
+        no("1/0=1|1/0=1");
+        no("1%0=1|1%0=1|2=2");
+        no("(1/0=1&1=1)|1/0=1");
+        no("1/0=1&1=1|1=2&1/0=1");
     }
 
     // ---- FAULTS
@@ -772,6 +797,11 @@ public final class EdgesWaysTest {
         fault("c(1=1234567)", -2010);
         fault("c([123456+1234567]=1)", -2016);
         fault("s1(1=1);l2(h*1234560>0)", -2019);
+        for (int digit = 0; digit <= 9; digit++) {
+            fault("c(123456" + digit + "=1)", -2008);
+            fault("c(" + digit + "23456=1)", 1);
+            fault("c(12345" + digit + "=1)", 1);
+        }
         fault("s12", -1002);
     }
 
@@ -832,6 +862,15 @@ public final class EdgesWaysTest {
         fault("c([[[[[(", -1007);
         fault("c(((((1+!", -1008);
         fault("c((((((1+(", -1009);
+        SlateRing x = Due.ring(1, 2);
+        for (int i = 0; i < 5; i++) {
+            Due.is("seven, time " + i, Due.way(x, 0, "c(((((((1=1)))))))"), -5007);
+            Due.is("seven !, time " + i, Due.way(x, 0, "c(!!!!!!1=1)"), -5007);
+            Due.is("seven [, time " + i, Due.way(x, 0, "c(1=[[[[[[1]]]]]])"), -5009);
+            Due.is("six that don't end, time " + i, Due.way(x, 0, "c((((((1=1"), -1010);
+            Due.is("six, time " + i, Due.way(x, 0, "c((((((1=1))))))"), 1);
+            Due.is("six !, time " + i, Due.way(x, 0, "c(!!!!!1=1)"), 1);
+        }
     }
 
     /** "FAULTS, the first from the left" */
